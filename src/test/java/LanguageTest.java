@@ -64,6 +64,11 @@ public final class LanguageTest {
         Check.told(new NettingDesk(), "party a;party b;");
         Check.told(new NettingDesk(), "\n party\na\nline 5 ;\n");
         Check.told(new NettingDesk(), "party abcdefgh;party a2345678;");
+        Check.told(new NettingDesk(), "party z;party az09;");
+        Check.refusedText(new NettingDesk(), "party {;", 1, 6);
+        Check.refusedText(new NettingDesk(), "party `;", 1, 6);
+        Check.refusedText(new NettingDesk(), "party a line /;", 1, 13);
+        Check.refusedText(new NettingDesk(), "party a line :;", 1, 13);
         Check.refusedText(new NettingDesk(), "party abcdefghi;", 1, 6);
         Check.refusedText(new NettingDesk(), "party a23456789;", 1, 6);
         Check.refusedText(new NettingDesk(), "abcdefghi", 1, 0);
@@ -239,6 +244,10 @@ public final class LanguageTest {
         Check.told(desk, "party c; money n rate 1 cut 1; pay a to c 5 n on 0;");
         Check.same("line of a party told at a used place", desk.party(2, 0), 0);
         Check.same("partner of a payment told at a used place", desk.payment(1, 5), -1);
+        Check.refusedText(desk, "pay a to c 5 n on 0; hold 2; cancel 2; cancel 2;", 5, 46);
+        Check.told(desk, "pay a to c 6 n on 1;");
+        Check.same("state of a payment told at a used place", desk.payment(2, 6), 0);
+        Check.same("whether it is held", desk.payment(2, 7), 0);
         Check.same("errorAt behind a text without error", desk.errorAt(), -1);
     }
 

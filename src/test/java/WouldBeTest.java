@@ -4,6 +4,7 @@ public final class WouldBeTest {
         runs();
         settled();
         when();
+        collateralAndDefault();
         frees();
         advise();
         rings();
@@ -38,6 +39,8 @@ public final class WouldBeTest {
         run("when two are settled", desk, 1, 0, 1, 0, 0);
         desk.pass(8);
         run("behind the cut", desk, 0, 0, 0, 0, 0);
+        NettingDesk back = Check.deskTold("party a; party b line 50; money m rate 200 cut 9; pay b to a 7 m on 0;");
+        run("with a gain of the first party", back, 1, 1, 0, 14, 14);
         // each amount's worth is cut by itself, and so is each gain's
         NettingDesk cut = Check.deskTold("party a line 99; party b; party c; money m rate 50 cut 9;"
             + "pay a to b 1 m on 0; pay a to b 1 m on 0; pay a to c 3 m on 0;");
@@ -87,6 +90,27 @@ public final class WouldBeTest {
         Check.index("when(6)", () -> desk.when(6));
     }
 
+    private static void collateralAndDefault() {
+        NettingDesk desk = Check.deskTold("party a; party b line 99; money m rate 100 cut 23; pay a to b 100 m on 2;");
+        desk.deposit(0, 0, 120);
+        desk.pledge(0, 0, 120);
+        Check.same("when by collateral", desk.when(0), 49);
+        desk.amend(0, 109);
+        Check.same("when by too little collateral", desk.when(0), -1);
+        Check.told(desk, "cancel 0; pay a to b 108 m on 0;");
+        Check.same("it settles", desk.pass(1), 1);
+        desk.pass(23);
+        Check.same("a is in default", desk.party(0, 4), 1);
+        Check.told(desk, "pay b to a 5 m on 1; pay b to a 5 m on 2; pay a to b 7 m on 1; pay a to b 7 m on 2;");
+        Check.same("when of a payment to a", desk.when(2), -1);
+        Check.same("when of tomorrow's to a, whose default stays", desk.when(3), -1);
+        Check.same("frees a: none takes part", desk.frees(0, 0), 0);
+        Check.same("advise: a deposit ends no default", desk.advise(0, 100000), -1);
+        desk.deposit(0, 0, 1000);
+        Check.same("when of today's to a", desk.when(2), -1);
+        Check.same("when of tomorrow's to a, whose default ends", desk.when(3), 25);
+    }
+
     private static void frees() {
         NettingDesk desk = Check.deskTold("party a line 10; party b; party c; money m rate 100 cut 9; money n rate 10 cut 9;"
             + "pay a to b 1010 m on 0; pay b to c 200 m on 0; pay a to c 500 n on 1; hold 1;");
@@ -125,6 +149,7 @@ public final class WouldBeTest {
         NettingDesk desk = Check.deskTold("party a; party b; party c; party d; money m rate 100 cut 9;"
             + "pay a to d 100 m on 0; pay b to d 100 m on 0; pay b to a 50 m on 0; pay c to d 70 m on 0; pay c to d 80 m on 0;");
         long before = desk.digest();
+        Check.same("advise 1", desk.advise(0, 1), -1);
         Check.same("advise 49", desk.advise(0, 49), -1);
         Check.same("advise 50: b pays one", desk.advise(0, 50), 1);
         Check.same("advise 70: b or c pays one", desk.advise(0, 70), 1);
@@ -167,8 +192,10 @@ public final class WouldBeTest {
         Check.index("ring(2)", () -> desk.ring(2));
         // settled ones do not count
         NettingDesk ring = Check.deskTold("party a; party b; party c; money m rate 100 cut 9;"
-            + "pay c to b 5 m on 0; pay b to a 5 m on 0; pay a to c 5 m on 0;");
-        Check.same("the other way round", ring.ring(0), 21);
+            + "pay c to b 5 m on 0; pay b to a 1 m on 0; pay a to c 5 m on 0;");
+        Check.same("the other way round, with a debt of 1", ring.ring(0), 21);
+        ring.amend(1, 5);
+        Check.same("with debts of 5", ring.ring(0), 21);
         ring.pass(1);
         Check.same("settled", ring.ring(0), -1);
     }
