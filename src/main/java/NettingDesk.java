@@ -663,7 +663,8 @@ public final class NettingDesk {
             count = 0;
             behind = 0;
             kind = SEMICOLON;
-            for (int k = 0; k < kinds.length && kind != END && kind != NO_TOKEN; k++) {
+            int most = Math.min(kinds.length, Math.min(places.length, values.length));
+            for (int k = 0; k < most && kind != END && kind != NO_TOKEN; k++) {
                 readToken();
                 kinds[k] = kind;
                 places[k] = place;

@@ -47,7 +47,7 @@ final class Check {
     }
 
     /** The exception must be of this very class: the machine's own are of classes below it. */
-    private static void refused(String what, Class<?> due, Call call) {
+    static void refused(String what, Class<?> due, Call call) {
         made++;
         Class<?> got = null;
         try {
@@ -102,7 +102,8 @@ final class Check {
 
     static String paper(NettingDesk desk) {
         StringBuilder all = new StringBuilder();
-        for (int k = 0; k < desk.count(11); k++) {
+        int bytes = desk.count(11);
+        for (int k = 0; k < bytes; k++) {
             all.append((char) desk.byteAt(k));
         }
         return all.toString();

@@ -189,8 +189,8 @@ public final class HourTest {
 
     private static void leastByInterest() {
         NettingDesk desk = Check.deskTold("party a line 1000000; party b; money m rate 1 cut 23;");
-        for (int k = 0; k < 56; k++) {
-            Check.told(desk, "pay a to b 100000 m on 0;");
+        for (int k = 0; k < 2; k++) {
+            Check.told(desk, "pay a to b 100000 m on 0;".repeat(28));
         }
         Check.same("much settles", desk.pass(1), 56);
         balances("then", desk, 0, -5600000, 5600000);

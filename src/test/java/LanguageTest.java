@@ -216,9 +216,8 @@ public final class LanguageTest {
         Check.told(desk, "money d rate 1 cut 2; money e rate 1 cut 2;");
         Check.refusedText(desk, "money f rate 0 cut 2;", 4, 6);
         Check.refusedText(desk, "money p3 rate 0 cut 2;", 2, 6);
-        for (int k = 0; k < 59; k++) {
-            Check.told(desk, "pay p0 to p9 1 a on 5;");
-        }
+        Check.told(desk, "pay p0 to p9 1 a on 5;".repeat(30));
+        Check.told(desk, "pay p0 to p9 1 a on 5;".repeat(29));
         Check.refusedText(desk, "pay p0 to p9 1 a on 5; pay p0 to p9 1 a on 5;", 4, 27);
         Check.same("payments behind too many", desk.count(2), 59);
         Check.told(desk, "pay p0 to p9 1 e on 5;");

@@ -4,6 +4,8 @@ import java.util.Random;
 public final class ModelTest {
     private static final int RUNS = 400;
     private static final int CALLS = 512;
+    // One step makes fewer calls than this: a text of five sentences is the longest.
+    private static final int DEAREST = 30;
 
     private NettingDesk desk = new NettingDesk();
     private PlainDesk plain = new PlainDesk();
@@ -83,9 +85,8 @@ public final class ModelTest {
     }
 
     private void play() {
-        teachText(opening());
-        int left = CALLS;
-        while (left > 0) {
+        int left = CALLS - 1 - teachText(opening());
+        while (left >= DEAREST) {
             left -= oneCall();
         }
         same("digest", () -> desk.digest(), plain.digest());

@@ -47,14 +47,19 @@ public final class ReportTest {
     }
 
     private static void fullPaper() {
-        NettingDesk desk = Check.deskTold("party abcdefgh; party abcdefgi; money abcdefgj rate 1 cut 1;");
-        StringBuilder due = new StringBuilder();
-        for (int k = 0; k < 60; k++) {
-            Check.told(desk, "pay abcdefgh to abcdefgi 100000 abcdefgj on 0;");
-            due.append("abcdefgh abcdefgi 100000 abcdefgj w\n");
+        String line = "abcdefgh abcdefgi 100000 abcdefgj w\n";
+        // a desk of its own for each tenth of the paper, so that none is asked too often
+        for (int from = 0; from < 2160; from += 216) {
+            NettingDesk desk = Check.deskTold("party abcdefgh; party abcdefgi; money abcdefgj rate 1 cut 1;");
+            for (int k = 0; k < 2; k++) {
+                Check.told(desk, "pay abcdefgh to abcdefgi 100000 abcdefgj on 0;".repeat(30));
+            }
+            Check.same("the longest report", desk.report(0), 2160);
+            Check.same("the longest paper", desk.count(11), 2160);
+            for (int k = from; k < from + 216; k++) {
+                Check.same("byteAt " + k, desk.byteAt(k), line.charAt(k % line.length()));
+            }
         }
-        report(desk, 0, due.toString());
-        Check.same("the longest paper", desk.count(11), 2160);
     }
 
     private static void kept() {
