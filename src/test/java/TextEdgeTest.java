@@ -21,6 +21,7 @@ public final class TextEdgeTest {
         likeKeywords();
         everyPlaceOfTheGrammar();
         tokenCounts();
+        tokensOfTheTextAhead();
         leftToRightInAPay();
         leftToRightInOthers();
         sentenceBySentence();
@@ -278,6 +279,27 @@ public final class TextEdgeTest {
         text("x " + most + "hold 0;hold 0;", 1, 0);
         text(most + "hold 1;", 5, at + 5);
         text(";".repeat(401), 1, 0);
+    }
+
+    /** A text is told for itself: that the one ahead of it had many tokens does not count. */
+    private static void tokensOfTheTextAhead() {
+        String[] sentence = {"hold", " 0", ";"};
+        for (int tokens = 0; tokens <= 402; tokens++) {
+            StringBuilder ahead = new StringBuilder();
+            int last = 0;
+            for (int k = 0; k < tokens; k++) {
+                last = k == 400 ? ahead.length() + (k % 3 == 1 ? 1 : 0) : last;
+                ahead.append(sentence[k % 3]);
+            }
+            NettingDesk desk = Check.deskTold(BASE + "pay a to b 1 m on 0;");
+            boolean isText = tokens <= 400 && tokens % 3 == 0;
+            int place = isText ? -1 : tokens > 400 ? last : ahead.length();
+            Check.refusedText(desk, ahead.toString(), isText ? 0 : 1, place);
+            Check.told(desk, "party c; pay c to a 2 m on 0;");
+            Check.refusedText(desk, "#" + ahead.substring(0, Math.min(ahead.length(), 1900)), 1, 0);
+            Check.told(desk, "hold 1;");
+            Check.same("held", desk.payment(1, 7), 1);
+        }
     }
 
     // ---- errors 2 to 6, in their order
