@@ -21,6 +21,7 @@ public final class HourEdgeTest {
         interestOfEach();
         defaultAtARoomBelowNothing();
         defaultEndsWithItsDay();
+        defaultAheadOfTheFees();
         fees();
         feesWhateverTheLimit();
         failsAtItsCut();
@@ -414,6 +415,32 @@ public final class HourEdgeTest {
             desk.pass(1);
         }
         Check.same("in default by the rate", desk.party(0, 4), 1);
+    }
+
+    /** Step 2 stands ahead of step 3: what fails when a day ends counts for default a day later. */
+    private static void defaultAheadOfTheFees() {
+        NettingDesk desk = Check.deskTold("party a line 6; party b; money m rate 100 cut 23;");
+        desk.pass(23);
+        Check.told(desk, "pay a to b 700 m on 0;");
+        desk.pass(1);
+        Check.same("its fee is paid", desk.has(0, 0, false), -7);
+        Check.same("there is no room", desk.party(0, 3), -1);
+        Check.same("not in default by it", desk.party(0, 4), 0);
+        desk.pass(23);
+        Check.same("nor up to the end of the day", desk.party(0, 4), 0);
+        desk.pass(1);
+        Check.same("but then", desk.party(0, 4), 1);
+        // who gets a fee is in default all the same: it comes behind the look
+        NettingDesk late = Check.deskTold("party a line 9; party b line 99; money m rate 100 cut 23; pay b to a 99 m on 0;");
+        late.pass(1);
+        late.setRate(0, 101);
+        late.pass(22);
+        Check.told(late, "pay a to b 700 m on 0;");
+        late.pass(1);
+        Check.same("the fee makes room", late.party(1, 3), 99 - 93);
+        Check.same("in default still", late.party(1, 4), 1);
+        late.pass(24);
+        Check.same("no more", late.party(1, 4), 0);
     }
 
     // ---- what fails
